@@ -301,7 +301,6 @@ public final class ThirdComer {
         }
         runPlain(n);
         int plain = tally.late();
-        tally.takeAfter(morning);
         tally.trial.stranger = sort;
         tally.run(n, customs);
         return tally.late() - plain;
@@ -756,8 +755,7 @@ public final class ThirdComer {
             if (!readItems(OF_SORTS, LEAST_OF_SORTS, MOST_OF_SORTS, village.sortItems, from)) {
                 return false;
             }
-            // Too many people are wrong at the byte behind the clause, and blanks still belong to it.
-            tape.peek();
+            // Too many people are wrong at the byte behind the clause, and its blanks have been read by now.
             return village.settlePeople() || tape.fail(tape.at);
         }
 
@@ -1167,14 +1165,13 @@ public final class ThirdComer {
             }
         }
 
+        /** Stands as another one does; neither has anyone sent or made a stranger, which trials alone have. */
         void copy(Morning other) {
             village = other.village;
             thing = other.thing;
             look = other.look;
             nth = other.nth;
             places = other.places;
-            sent = other.sent;
-            stranger = other.stranger;
             draw = other.draw;
             minute = other.minute;
             here = other.here;

@@ -48,6 +48,8 @@ public final class MorningTest {
         waysChangeAtOnce();
         startAgain();
         images();
+        imagesOfAll();
+        twentyOfSixSorts();
         Check.finish();
     }
 
@@ -475,6 +477,37 @@ public final class MorningTest {
         x.start(1, 0, 0, 1L);
         x.back();
         same("51: the newer one", ends, everything(x));
+    }
+
+    /** An image has the thing, the look, the NTH and who waits of each sort. */
+    private static void imagesOfAll() {
+        String[] texts = {"tn1;tn2w70f1;sm3;sk0d4", "t;sm9", "y:g>0&r=2?10;y:h>0&v<70&n=2&r=1?10"};
+        ThirdComer x = Check.with(texts);
+        x.start(0, 1, 1, 0L);
+        x.minutes(1);
+        x.image();
+        x.start(1, 0, 0, 0L);
+        x.minutes(9);
+        Check.due("51: back", 1, x.back());
+        Check.due("51: who waits", 3, x.about(2));
+        x.minutes(61);
+        // In minute 1 the first of three goes, who comes in 2; then the second goes, and has it in 3.
+        who(x, "back", 0, 2, 1, 2, 1, 0, 0);
+        who(x, "back", 1, 2, 2, 3, 2, 1, 67);
+        who(x, "back", 2, 0, NONE, NONE, NONE, 0, 0);
+        about(x, "back", 3, 2, 1, 1, 1, 1, 3, 1);
+    }
+
+    private static void twentyOfSixSorts() {
+        ThirdComer x = ran("tn9p3w99f1;sm9;sm7;s;s;s;sc1", "y:10");
+        about(x, "twenty", 1, 20, 0, 0, 3, 1, 1, 10);
+        for (int person = 0; person < 20; person++) {
+            int has = person >= 8 && person <= 10 ? 1 : 0;
+            who(x, "twenty", person, 2, 0, 1, person + 1, has, has * 98);
+        }
+        x = ran("tn9p3w99f1;sm9;sm7;s;s;s;sc1", "y:0");
+        about(x, "twenty who stay", 61, 0, 20, 0, 0, 1, NONE, NONE);
+        Check.due("13: the last one", -61, x.who(19, GAIN));
     }
 
     private static int[] everything(ThirdComer x) {

@@ -167,6 +167,13 @@ public final class RowTest {
         Check.due("25: not to go", -1188000000000L, x.value(12));
         Check.yes("25: behind it", Check.noValue(x, 13));
         Check.due("24: behind the last", NONE, x.taken(12));
+        Check.due("27: of 12 minutes", 0, x.rest(99));
+        Check.yes("44: of 12 minutes", x.mean() > 0 && x.mean() < 12000000);
+        x.row(9, 9, 1, 0, 0, 2);
+        x.chance(0, 1);
+        x.chance(1, 0);
+        Check.due("24: one part of all", 1, x.taken(0));
+        Check.due("45: a part does not go astray", x.gone(1), x.gone(2));
         x.row(9, 1, 999, 0, 0, 1);
         x.chance(0, 0);
         Check.due("44: never, in minutes", 1000000, x.mean());

@@ -18,8 +18,12 @@ public final class SeedsTest {
         theMorningStays();
         better();
         betterOfWaysThere();
+        stayingIsBest();
         agree();
         agreeWithoutEnd();
+        agreeAtTheBound();
+        afterOtherQuestions();
+        twentyOfSixSorts();
         Check.finish();
     }
 
@@ -195,6 +199,9 @@ public final class SeedsTest {
         Check.due("16: by 3 nobody goes", 120, x.law(3, 2));
         Check.due("16: by 4 all go", 2, x.law(4, 2));
         Check.due("17: the lowest of several", 4, x.which(2));
+        x = Check.with("tn1;sm6", "y:n=2?10");
+        x.start(0, 0, 0, 0L);
+        Check.due("17: the second", 2, x.which(2));
         x = Check.with("tn1;sm9", "y:n=9?10");
         x.start(0, 0, 0, 0L);
         Check.due("17: the ninth", 9, x.which(3));
@@ -282,6 +289,107 @@ public final class SeedsTest {
         Check.due("15: and is worth something", 30, x.odds(4, 3, 1));
     }
 
+    private static ThirdComer longToAgree(int wayOfSortOne) {
+        ThirdComer x = Check.with("tn5p3w93f2;sm1d0c2;sm2d3c3;sm1d3c1;sm2d0c3;sm3d2c2;sm1d2c7", "y:o<2?10;y:1", "y:3",
+            "y:h=n-1?10;y:0", "y:t>5?10", "y:r", "y:g>0?10;y:0");
+        int[] ways = {3, wayOfSortOne, 4, 1, 2, 0};
+        for (int sort = 0; sort < 6; sort++) {
+            x.way(sort, ways[sort]);
+        }
+        x.start(0, 0, 1, 0L);
+        return x;
+    }
+
+    /** The same by steps of better, gains and way: how many changes, 99 at most. */
+    private static int agreeByHand(ThirdComer x, int sorts) {
+        int changes = 0;
+        int sort = 0;
+        for (int still = 0; still < sorts && changes < 99; sort = (sort + 1) % sorts) {
+            int own = x.wayOf(sort);
+            int gains = x.gains(sort, 1);
+            x.way(sort, x.better(sort, 1));
+            boolean more = x.gains(sort, 1) > gains;
+            x.way(sort, more ? x.wayOf(sort) : own);
+            changes += more ? 1 : 0;
+            still = more ? 0 : still + 1;
+        }
+        return changes;
+    }
+
+    /** Thirty changes are still agreed, one more is not. */
+    private static void agreeAtTheBound() {
+        ThirdComer x = longToAgree(1);
+        ThirdComer byHand = longToAgree(1);
+        Check.due("42: 30 by hand", 30, agreeByHand(byHand, 6));
+        Check.due("42: 30", 30, x.agree(1));
+        for (int sort = 0; sort < 6; sort++) {
+            Check.due("42: ways become so", byHand.wayOf(sort), x.wayOf(sort));
+        }
+        Check.due("42: 31 by hand", 31, agreeByHand(longToAgree(3), 6));
+        x = longToAgree(3);
+        Check.due("42: 31", NONE, x.agree(1));
+        int[] ways = {3, 3, 4, 1, 2, 0};
+        for (int sort = 0; sort < 6; sort++) {
+            Check.due("42: ways stay as they were", ways[sort], x.wayOf(sort));
+        }
+    }
+
+    /** No question leaves anything behind for the next one. */
+    private static void afterOtherQuestions() {
+        String[] texts = {"tn2p2w99f1;sc2d2;sm3c1;sm2", "y:g+h<n?2;y:g>2?0;y:4"};
+        for (int first = 0; first < 5; first++) {
+            for (int second = 0; second < 10; second++) {
+                ThirdComer x = Check.with(texts);
+                ThirdComer other = Check.with(texts);
+                x.start(0, 0, 1, 0L);
+                other.start(0, 0, 1, 0L);
+                disturb(x, first);
+                Check.due("15: " + second + " behind " + first, ask(other, second), ask(x, second));
+            }
+        }
+    }
+
+    private static void disturb(ThirdComer x, int which) {
+        switch (which) {
+            case 0: x.law(7, 9); break;
+            case 1: x.pay(1, 0, 9); break;
+            case 2: x.strangers(1, 9); break;
+            case 3: x.seen(9); break;
+            default: x.way(1, 4); x.gains(0, 9); x.way(1, 0); break;
+        }
+    }
+
+    private static int ask(ThirdComer x, int which) {
+        switch (which) {
+            case 0: return x.odds(1, 12, 1);
+            case 1: return x.law(NONE, 12);
+            case 2: return x.price(0, 12);
+            case 3: return x.pay(1, 2, 12);
+            case 4: return x.strangers(0, 12);
+            case 5: return x.seen(12);
+            case 6: return x.both(1, 2, 12);
+            case 7: return x.kin(1, 2, 12);
+            case 8: return x.gains(1, 12);
+            default: return x.ends(4, 12);
+        }
+    }
+
+    private static void twentyOfSixSorts() {
+        ThirdComer x = Check.with("tn9p3w99f1;sm9;sm7;s;s;s;sc1", "y:10", "y:0");
+        x.start(0, 0, 0, 0L);
+        Check.due("15: the last who has it", 3, x.odds(10, 3, 0));
+        Check.due("15: the last", 0, x.odds(19, 3, 1));
+        Check.due("40: the first sort has one", 3 * 98, x.gains(0, 3));
+        Check.due("40: the last sort", 0, x.gains(5, 3));
+        Check.due("37: two who have it", 3, x.both(8, 10, 3));
+        x.way(5, 1);
+        // It is over in minute 1, so that waiting costs 1 each.
+        Check.due("40: the last sort waits", -3, x.gains(5, 3));
+        Check.due("41: the last sort", 0, x.better(5, 3));
+        Check.due("42: it changes alone", 1, x.agree(3));
+        Check.due("42: it goes", 0, x.wayOf(5));
+    }
+
     private static void theMorningStays() {
         ThirdComer x = Check.with("tn3w90f2;sm4c1d2;sd0", DRAWN, "y:2");
         ThirdComer still = Check.with("tn3w90f2;sm4c1d2;sd0", DRAWN, "y:2");
@@ -358,6 +466,18 @@ public final class SeedsTest {
         Check.due("42: sort 1", 3, x.wayOf(1));
         Check.due("42: sort 2", 0, x.wayOf(2));
         Check.due("42: now none changes", 0, x.agree(2));
+    }
+
+    /** It may be better to stay without a way than to take any there is; then none is taken. */
+    private static void stayingIsBest() {
+        // Those of sort 1 go in minute 1, and end it, unless one of sort 0 has gone; by the way one of them would.
+        ThirdComer x = Check.with("tn2w0;sm2c1;sm2", "y:c=0&t=1&o-r=2?10;y:c=1&r=1&t=0?10");
+        x.start(0, 0, 1, 0L);
+        x.way(0, 5);
+        Check.due("40: it ends in minute 2", 2 * -2, x.gains(0, 1));
+        Check.due("41: of those there are", 0, x.better(0, 1));
+        Check.due("42: it gives no more than its own", 0, x.agree(1));
+        Check.due("42: it stays", 5, x.wayOf(0));
     }
 
     private static void agreeWithoutEnd() {

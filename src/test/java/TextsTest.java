@@ -51,6 +51,11 @@ public final class TextsTest {
         Check.due("2: 159", 159, x.feed(-1, -1, -1, -1, 0x00FFFFFF));
         Check.due("2: more than 160", NONE, x.feed(0x00FF00FF, 0, 0, 0, 0));
         Check.due("2: refused changes nothing", 159, x.count(2));
+        Check.due("2: each number counts", NONE, x.feed(0, 0x00FF00FF, 0, 0, 0));
+        Check.due("2: each number counts", NONE, x.feed(0, 0, 0x00FF00FF, 0, 0));
+        Check.due("2: each number counts", NONE, x.feed(0, 0, 0, 0x00FF00FF, 0));
+        Check.due("2: each number counts", NONE, x.feed(0, 0, 0, 0, 0x00FF00FF));
+        Check.due("2: refused changes nothing", 159, x.count(2));
         Check.due("2: 160", 160, x.feed(0, 0, 0, 0, 1));
         Check.due("2: nothing more to 160", 160, x.feed(0, 0, 0, 0, 0));
         Check.due("2: 161", NONE, x.feed(0, 1, 0, 0, 0));
@@ -126,6 +131,8 @@ public final class TextsTest {
         village(4, "tn100;s");
         village(5, "tw1000;s");
         village(5, "tn1000;s");
+        village(5, "tw0001;s");
+        village(NONE, "tw001;s");
         village(2, "tp0;s");
         village(2, "tp4;s");
         village(4, "tf100;s");
@@ -328,6 +335,17 @@ public final class TextsTest {
         Check.due("5: what was refused leaves nothing", 0, x.text(0));
         Check.due("5: NTH", 3, x.thing(0, 0, 0));
         Check.due("5: PEOPLE", 1, x.village(0, 2));
+        Check.due("5: SORTS", 1, x.village(0, 1));
+        Check.due("5: THINGS", 1, x.village(0, 0));
+        Check.feed(x, "y:0;y:10;x");
+        Check.due("5: a fault late in a way", NONE, x.text(1));
+        x.end(0);
+        Check.feed(x, "y:t=2?10");
+        Check.due("5: a way without it", 1, x.text(1));
+        x.way(0, 1);
+        x.start(0, 0, 0, 0L);
+        x.minutes(5);
+        Check.due("5: what was refused leaves nothing", 2, x.who(0, 1));
     }
 
     private static void villages() {

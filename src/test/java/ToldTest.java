@@ -14,6 +14,8 @@ public final class ToldTest {
         settle();
         settleFromElsewhere();
         ring();
+        ringAtTheBound();
+        twentyOfThem();
         between();
         round();
         roundOrder();
@@ -149,6 +151,10 @@ public final class ToldTest {
         Check.due("32: none is ill", 0, x.ill());
         x = told("tn9w50;sm2c1", 3, 0);
         due(x, 0, 3, 2, -3, 0, 3);
+        x = told("tn2w50;sm2", 60, NONE);
+        due(x, 1, NONE, NONE, 0, 60, 50);
+        x = told("tn9;sc1;sc1", 1, 0);
+        Check.due("32: one of regret is enough", 1, x.ill());
         x = told("tn1w50;sm2;sm2", 60, 60, 60, 60);
         due(x, 3, 60, 4, 0, 0, 50);
         Check.due("32: all but the first", 14, x.ill());
@@ -211,6 +217,44 @@ public final class ToldTest {
         for (int person = 0; person < 4; person++) {
             Check.due("33: what is told stays", minutes[person], x.told(person, 0));
         }
+    }
+
+    /** A thousand changes are still none, one more is a ring. */
+    private static void ringAtTheBound() {
+        int[] minutes = {NONE, 13, 7, 10, 1, 7, 20, 0, NONE, 4};
+        ThirdComer x = told("tn7p3w559f0;sm4c1;sm1c1;sm2c2;sm3c0", minutes);
+        Check.due("33: 1001", NONE, x.settle());
+        for (int person = 0; person < 10; person++) {
+            Check.due("33: what is told stays", minutes[person], x.told(person, 0));
+        }
+        x.came(0, x.told(0, 3));
+        Check.due("33: one less to come", 1000, x.settle());
+        Check.due("33: none is left", 0, x.ill());
+        Check.due("33: none changes", 0, x.settle());
+    }
+
+    private static void twentyOfThem() {
+        ThirdComer x = told("tn9p3w99f1;tn5;tn1;tn1;sm9;sm7;s;s;s;sc1");
+        for (int person = 0; person < 20; person++) {
+            x.came(person, 19 - person);
+        }
+        Check.due("31: the last comes first", 1, x.told(19, 1));
+        Check.due("31: the first comes last", 20, x.told(0, 1));
+        Check.due("31: the ninth who comes", 99 - 8, x.told(11, 2));
+        goes(x, 19, 2, 2, 3);
+        goes(x, 18, NONE, NONE, 3);
+        goes(x, 15, 1, 5, 2);
+        goes(x, 14, NONE, NONE, 2);
+        goes(x, 11, 0, 8, 1);
+        goes(x, 9, 0, 10, 1);
+        goes(x, 0, NONE, NONE, 1);
+        x.came(1, NONE);
+        goes(x, 2, NONE, NONE, 1);
+        goes(x, 19, 2, 2, 3);
+        x.came(0, NONE);
+        goes(x, 19, 2, 2, 3);
+        Check.due("48: one a minute", 0, x.crowd());
+        Check.yes("32: some are ill", x.ill() > 0);
     }
 
     private static void between() {
