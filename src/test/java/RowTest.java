@@ -169,6 +169,8 @@ public final class RowTest {
         Check.due("24: behind the last", NONE, x.taken(12));
         Check.due("27: of 12 minutes", 0, x.rest(99));
         Check.yes("44: of 12 minutes", x.mean() > 0 && x.mean() < 12000000);
+        x.row(2, 2, 0, 0, 0, 12);
+        Check.due("27: to the end of 12 minutes", 1, x.rest(0));
         x.row(9, 9, 1, 0, 0, 2);
         x.chance(0, 1);
         x.chance(1, 0);
