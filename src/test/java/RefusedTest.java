@@ -135,7 +135,7 @@ public final class RefusedTest {
     // ---- texts
 
     private static void tape() {
-        each("2: 161 bytes, by each of the twenty", NONE, RefusedTest::full, new int[] {0, 1, 2, 3, 4}, (x, i) -> one(x, i));
+        each("2: 161 bytes, by word", NONE, RefusedTest::full, new int[] {0, 1, 2, 3, 4}, (x, i) -> one(x, i));
         no("2: twenty more than 160", NONE, RefusedTest::full, x -> x.feed(-1, -1, -1, -1, -1));
         no("2: 161 bytes, of which 5 have room", NONE, () -> shortOfFull(5), x -> x.feed(-1, 0x00FF00FF, 0, 0, 0));
         no("2: 161 bytes, of which 19 have room", NONE, () -> shortOfFull(19), x -> x.feed(-1, -1, -1, -1, -1));
@@ -352,7 +352,8 @@ public final class RefusedTest {
         Supplier<ThirdComer> made = RefusedTest::busy;
         each("22: row, m", NO, made, beside(2, 9), (x, n) -> bit(x.row(n, 1, 10, 1, 1, 2)));
         each("22: row, nth", NO, made, beside(1, 9), (x, n) -> bit(x.row(9, n, 10, 1, 1, 2)));
-        each("22: row, nth above m", NO, made, new int[] {2, 3, 4, 5, 6, 7, 8}, (x, m) -> bit(x.row(m, m + 1, 10, 1, 1, 2)));
+        int[] many = {2, 3, 4, 5, 6, 7, 8};
+        each("22: row, nth above m", NO, made, many, (x, m) -> bit(x.row(m, m + 1, 10, 1, 1, 2)));
         each("22: row, worth", NO, made, beside(0, 999), (x, n) -> bit(x.row(2, 1, n, 1, 1, 2)));
         each("22: row, fall", NO, made, beside(0, 99), (x, n) -> bit(x.row(2, 1, 10, n, 1, 2)));
         each("22: row, cost", NO, made, beside(0, 99), (x, n) -> bit(x.row(2, 1, 10, 1, n, 2)));

@@ -65,7 +65,7 @@ public final class TextBoundsTest {
             Check.due("2: all but one", 19, new ThirdComer().feed(words[0], words[1], words[2], words[3], words[4]));
         }
         Check.due("2: no byte", 0, new ThirdComer().feed(0, 0, 0, 0, 0));
-        Check.due("2: all bytes", 20, new ThirdComer().feed(-1, 0x80808080, 0x01010101, 0x7F7F7F7F, 0x80000000 | 0x00FFFFFF));
+        Check.due("2: all bytes", 20, new ThirdComer().feed(-1, 0x80808080, 0x01010101, 0x7F7F7F7F, 0x80FFFFFF));
     }
 
     private static ThirdComer withBytes(int many) {
@@ -466,7 +466,7 @@ public final class TextBoundsTest {
 
     private static void oneToFourDigits() {
         for (String ahead : new String[] {"y:", "y:1+", "y:1=", "y:1=1?", "y:!", "y:(", "y:1;y:"}) {
-            String behind = ahead.equals("y:1=") ? "?1" : ahead.equals("y:!") ? "=1?1" : ahead.equals("y:(") ? "=1)?1" : "";
+            String behind = ahead.endsWith("=") ? "?1" : ahead.endsWith("!") ? "=1?1" : ahead.endsWith("(") ? "=1)?1" : "";
             way("no digit", ahead.length(), ahead + behind);
             way("one digit", NONE, ahead + "9" + behind);
             way("three digits", NONE, ahead + "999" + behind);
@@ -483,10 +483,10 @@ public final class TextBoundsTest {
         for (int nots = 0; nots <= 7; nots++) {
             for (int rounds = 0; nots + rounds <= 7; rounds++) {
                 for (int squares = 0; nots + rounds + squares <= 7; squares++) {
-                    String ahead = "y:" + "!".repeat(nots) + "(".repeat(rounds);
-                    String text = ahead + "[".repeat(squares) + "1" + "]".repeat(squares) + "=1" + ")".repeat(rounds) + "?1";
-                    String turned = "y:" + "(".repeat(rounds) + "!".repeat(nots) + "1=" + "[".repeat(squares) + "1"
-                        + "]".repeat(squares) + ")".repeat(rounds) + "?1";
+                    String sum = "[".repeat(squares) + "1" + "]".repeat(squares);
+                    String close = ")".repeat(rounds) + "?1";
+                    String text = "y:" + "!".repeat(nots) + "(".repeat(rounds) + sum + "=1" + close;
+                    String turned = "y:" + "(".repeat(rounds) + "!".repeat(nots) + "1=" + sum + close;
                     boolean good = nots + rounds + squares <= 6;
                     way("within one another", good ? NONE : 8, text);
                     way("within one another", good ? NONE : squares > 0 ? 10 : 8, turned);
