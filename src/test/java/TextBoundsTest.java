@@ -466,7 +466,8 @@ public final class TextBoundsTest {
 
     private static void oneToFourDigits() {
         for (String ahead : new String[] {"y:", "y:1+", "y:1=", "y:1=1?", "y:!", "y:(", "y:1;y:"}) {
-            String behind = ahead.endsWith("=") ? "?1" : ahead.endsWith("!") ? "=1?1" : ahead.endsWith("(") ? "=1)?1" : "";
+            String unit = ahead.endsWith("!") ? "=1?1" : ahead.endsWith("(") ? "=1)?1" : "";
+            String behind = ahead.endsWith("=") ? "?1" : unit;
             way("no digit", ahead.length(), ahead + behind);
             way("one digit", NONE, ahead + "9" + behind);
             way("three digits", NONE, ahead + "999" + behind);
