@@ -655,10 +655,13 @@ public final class ThirdComer {
 
         /** The next byte that is no blank, without taking it; NONE at the end. */
         int peek() {
-            while (at < length && next() == ' ') {
+            while (at >= 0 && at < length && at < MOST_BYTES) {
+                if (bytes[at] != ' ') {
+                    return bytes[at];
+                }
                 at++;
             }
-            return next();
+            return NONE;
         }
 
         /** Says where the text is wrong, and false, so that readers can end with it. */
